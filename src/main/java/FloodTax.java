@@ -34,7 +34,6 @@ public final class FloodTax {
     private final Land land;
     private final BearTable bearTable;
     private final Tape tape;
-    private final DecreeParser parser;
     private final Levy levy;
     private final Takings takings;
     private DecreeBook book;
@@ -47,7 +46,6 @@ public final class FloodTax {
         land = new Land();
         bearTable = new BearTable();
         tape = new Tape();
-        parser = new DecreeParser(tape);
         levy = new Levy();
         takings = new Takings();
         book = new DecreeBook();
@@ -71,7 +69,7 @@ public final class FloodTax {
         if (!isWithin(day, DAYS - 1) || !isKnownDay(known)) {
             return NONE;
         }
-        river.look(known, DAYS - 1);
+        river.look(known);
         return river.seen[day];
     }
 
@@ -79,7 +77,7 @@ public final class FloodTax {
         if (!isKnownDay(known)) {
             return NONE;
         }
-        river.look(known, DAYS - 1);
+        river.look(known);
         return river.seenPeak;
     }
 
@@ -157,7 +155,7 @@ public final class FloodTax {
         if (!land.hasStrip(strip) || !isKnownDay(known)) {
             return NONE;
         }
-        river.look(known, DAYS - 1);
+        river.look(known);
         return river.wetDays(land.levels[strip]);
     }
 
@@ -165,7 +163,7 @@ public final class FloodTax {
         if (!land.hasStrip(strip) || !isKnownDay(known)) {
             return NONE;
         }
-        river.look(known, DAYS - 1);
+        river.look(known);
         return harvestSeen(strip);
     }
 
@@ -173,7 +171,7 @@ public final class FloodTax {
         if (!land.hasStrip(strip) || !isWithin(day, DAYS - 1)) {
             return NONE;
         }
-        river.look(day, day);
+        river.lookUpTo(day, day);
         return harvestSeen(strip);
     }
 
@@ -198,7 +196,7 @@ public final class FloodTax {
     }
 
     public int decrees() {
-        faultPlace = parser.parseInto(spareBook);
+        faultPlace = tape.parseInto(spareBook);
         tape.length = 0;
         if (faultPlace != NONE) {
             return refuse(BAD_TEXT);
@@ -217,7 +215,7 @@ public final class FloodTax {
         if (!land.hasStrip(strip) || !isKnownDay(known)) {
             return NONE;
         }
-        river.look(known, DAYS - 1);
+        river.look(known);
         assessSeen(strip);
         switch (what) {
             case 0:
@@ -253,7 +251,7 @@ public final class FloodTax {
         if (!isWithin(officer, OFFICERS - 1) || !isKnownDay(known)) {
             return NONE;
         }
-        river.look(known, DAYS - 1);
+        river.look(known);
         takings.sumUp(officer, known);
         long gained = 0;
         for (int strip = 0; strip < land.strips; strip++) {
@@ -268,7 +266,7 @@ public final class FloodTax {
         if (!isKnownDay(known)) {
             return NONE;
         }
-        river.look(known, DAYS - 1);
+        river.look(known);
         int all = 0;
         for (int strip = 0; strip < land.strips; strip++) {
             all += harvestSeen(strip);
@@ -280,7 +278,7 @@ public final class FloodTax {
         if (sheaf < 0 || !isKnownDay(known) || !isWithin(what, 1)) {
             return NONE;
         }
-        river.look(known, DAYS - 1);
+        river.look(known);
         int place = sheaf;
         for (int strip = 0; strip < land.strips; strip++) {
             int borne = harvestSeen(strip);
@@ -327,15 +325,19 @@ public final class FloodTax {
         return answer;
     }
 
-    /** By the heights that the river was last looked at with. */
+    // "Seen" in these names: by the heights of the latest look at the river, so that one look serves many strips.
+
     private int harvestSeen(int strip) {
-        return land.widths[strip] * bearTable.borneAfter(river.wetDays(land.levels[strip]));
+        return harvestAfter(strip, river.wetDays(land.levels[strip]));
+    }
+
+    private int harvestAfter(int strip, int wetDays) {
+        return land.widths[strip] * bearTable.borneAfter(wetDays);
     }
 
     private void assessSeen(int strip) {
         int wetDays = river.wetDays(land.levels[strip]);
-        int borne = land.widths[strip] * bearTable.borneAfter(wetDays);
-        levy.assess(book, borne, wetDays, river.seenPeak);
+        levy.assess(book, harvestAfter(strip, wetDays), wetDays, river.seenPeak);
     }
 
     private long gainSeen(int strip) {
@@ -383,7 +385,12 @@ public final class FloodTax {
             told++;
         }
 
-        void look(int known, int lastDay) {
+        void look(int known) {
+            lookUpTo(DAYS - 1, known);
+        }
+
+        /** Readings of days behind the last one don't count. */
+        void lookUpTo(int lastDay, int known) {
             for (int day = 0; day < DAYS; day++) {
                 seen[day] = UNTOLD;
             }
@@ -536,21 +543,6 @@ public final class FloodTax {
         }
     }
 
-    /** The bytes that were fed and are not yet decrees, each 0 to 255. */
-    private static final class Tape {
-        private final int[] bytes = new int[TAPE_BYTES];
-        private int length = 0;
-
-        void append(int fourBytes) {
-            for (int shift = 24; shift >= 0; shift -= 8) {
-                if (length < TAPE_BYTES) {
-                    bytes[length] = (fourBytes >>> shift) & 255;
-                    length++;
-                }
-            }
-        }
-    }
-
     /** Decrees in the order of their text: part of whole, with the number that bounds where each holds. */
     private static final class DecreeBook {
         private static final int TAX = 0;
@@ -618,21 +610,27 @@ public final class FloodTax {
         }
     }
 
-    /** Reads decrees off the tape, one token ahead; a fault is where the token ahead starts. */
-    private static final class DecreeParser {
+    /** The bytes that were fed, each 0 to 255, and the reading of decrees off them, one token ahead. */
+    private static final class Tape {
         private static final int AT_END = 0;
         private static final int WORD = 1;
         private static final int NUMBER = 2;
         private static final int SIGN = 3;
 
-        private final Tape tape;
+        private final int[] bytes = new int[TAPE_BYTES];
+        private int length = 0;
+        // The token ahead; where it starts is where a fault is told.
         private int kind = AT_END;
         private int start = 0;
         private int after = 0;
-        private int value = 0;
 
-        DecreeParser(Tape tape) {
-            this.tape = tape;
+        void append(int fourBytes) {
+            for (int shift = 24; shift >= 0; shift -= 8) {
+                if (length < TAPE_BYTES) {
+                    bytes[length] = (fourBytes >>> shift) & 255;
+                    length++;
+                }
+            }
         }
 
         /** The place of the fault, or NONE. */
@@ -707,11 +705,23 @@ public final class FloodTax {
         }
 
         private int takeNumber(int least) {
-            if (kind != NUMBER || value < least || value > MOST_NUMBER) {
+            if (kind != NUMBER) {
                 return NONE;
             }
-            int number = value;
+            int number = numberAhead();
+            if (number < least || number > MOST_NUMBER) {
+                return NONE;
+            }
             nextToken();
+            return number;
+        }
+
+        private int numberAhead() {
+            int number = 0;
+            for (int place = start; place < after; place++) {
+                // Held just above the most, so that a long row of digits can't wrap around.
+                number = Math.min(number * 10 + bytes[place] - '0', MOST_NUMBER + 1);
+            }
             return number;
         }
 
@@ -720,7 +730,7 @@ public final class FloodTax {
                 return false;
             }
             for (int i = 0; i < word.length(); i++) {
-                if (tape.bytes[start + i] != word.charAt(i)) {
+                if (bytes[start + i] != word.charAt(i)) {
                     return false;
                 }
             }
@@ -729,7 +739,7 @@ public final class FloodTax {
         }
 
         private boolean takeSemicolon() {
-            if (kind != SIGN || tape.bytes[start] != ';') {
+            if (kind != SIGN || bytes[start] != ';') {
                 return false;
             }
             nextToken();
@@ -738,45 +748,26 @@ public final class FloodTax {
 
         private void nextToken() {
             start = after;
-            while (start < tape.length && tape.bytes[start] == ' ') {
+            while (start < length && bytes[start] == ' ') {
                 start++;
             }
+            kind = kindAt(start);
+            int limit = kind == SIGN ? start + 1 : length;
             after = start;
-            if (start >= tape.length) {
-                kind = AT_END;
-            } else if (isLetter(tape.bytes[start])) {
-                kind = WORD;
-                passLetters();
-            } else if (isDigit(tape.bytes[start])) {
-                kind = NUMBER;
-                passDigits();
-            } else {
-                kind = SIGN;
+            while (after < limit && kindAt(after) == kind) {
                 after++;
             }
         }
 
-        private void passLetters() {
-            while (after < tape.length && isLetter(tape.bytes[after])) {
-                after++;
+        private int kindAt(int place) {
+            if (place >= length) {
+                return AT_END;
             }
-        }
-
-        private void passDigits() {
-            value = 0;
-            while (after < tape.length && isDigit(tape.bytes[after])) {
-                // Held just above the most, so that a long row of digits can't wrap around.
-                value = Math.min(value * 10 + tape.bytes[after] - '0', MOST_NUMBER + 1);
-                after++;
+            int code = bytes[place];
+            if (code >= 'a' && code <= 'z') {
+                return WORD;
             }
-        }
-
-        private static boolean isLetter(int code) {
-            return code >= 'a' && code <= 'z';
-        }
-
-        private static boolean isDigit(int code) {
-            return code >= '0' && code <= '9';
+            return code >= '0' && code <= '9' ? NUMBER : SIGN;
         }
     }
 

@@ -90,6 +90,16 @@ public final class DecreeTest {
         faulty("Free 1", 0);
         faulty("frees 1", 0);
         faulty("fre 1", 0);
+        faulty("tree 1", 0);
+        faulty("fret 1", 0);
+        faulty("freez 1", 0);
+        faulty("freea 1", 0);
+        faulty("free{1", 4);
+        faulty("free`1", 4);
+        faulty("free/1", 4);
+        faulty("free:1", 4);
+        faulty("free 1/", 6);
+        faulty("free 1:", 6);
         faulty("7", 0);
         faulty("free", 4);
         faulty("free   ", 7);
@@ -149,6 +159,9 @@ public final class DecreeTest {
         Check.due("decrees are gone", x.tax(0, 0, 0), 0);
         Texts.decree(x, "tax 1 of 4 from 0");
         Check.due("new ones", x.tax(0, 0, 0), 25);
+        Texts.decree(x, "free 0; officer 1 of 1; x");
+        Texts.decree(x, "tax 1 of 4 from 0");
+        Check.due("nothing of the ones ahead", x.tax(0, 0, 2), 0);
     }
 
     private static String times(int n, String text) {

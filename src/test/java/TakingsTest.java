@@ -98,6 +98,8 @@ public final class TakingsTest {
         x.take(2, 0, 5, 0);
         Check.due("took 0 of 5", x.gain(1, 0), 0);
         Check.due("took 5 of 5", x.gain(2, 0), 5);
+        x.take(3, 1, 1, 0);
+        Check.due("took 1 of 1", x.gain(3, 0), 1);
     }
 
     private static void greatest() {

@@ -5,6 +5,7 @@ public final class TaxTest {
         taxByPeak();
         freed();
         relieved();
+        firstOfAll();
         officersPart();
         asKnown();
         greatest();
@@ -73,6 +74,12 @@ public final class TaxTest {
             int net = 50 - want[i];
             parts(texts[i], x, 0, net, want[i], net / 10, net - net / 10, 100 - net);
         }
+    }
+
+    private static void firstOfAll() {
+        parts("relief first", land("relief 1 of 2 below 121; tax 1 of 2 from 0"), 0, 25, 25, 0, 25, 75);
+        parts("officer first", land("officer 1 of 2; tax 1 of 2 from 0"), 0, 50, 0, 25, 25, 50);
+        parts("free first", land("free 101; tax 1 of 2 from 0"), 0, 0);
     }
 
     private static void officersPart() {
