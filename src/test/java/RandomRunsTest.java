@@ -2,8 +2,10 @@ import java.util.Random;
 
 /** Long runs of all calls with numbers good and bad, the same ones each time, held against PlainModel. */
 public final class RandomRunsTest {
-    private static final int RUNS = 300;
+    private static final int RUNS = 600;
+    /** What an object answers behind its 512th call is free, so a run ends ahead of that. */
     private static final int CALLS = 512;
+    private static final int CALLS_OF_ONE_STEP = 30;
     private static final int[] ODD = {-1, Integer.MIN_VALUE, Integer.MAX_VALUE, -2, 1 << 16, 1001, 10001, 1000001, 401, 120};
     private static final String[] WORDS = {"tax", "relief", "free", "officer", "of", "from", "below", ";", "0", "1", "7", "10000", "10001", "x", ","};
 
@@ -28,20 +30,20 @@ public final class RandomRunsTest {
     }
 
     private void play() {
-        while (left > 0) {
-            if (random.nextInt(25) == 0 && left > 14) {
+        while (left >= CALLS_OF_ONE_STEP) {
+            if (random.nextInt(25) == 0) {
                 decree();
             } else {
-                left--;
                 one(call());
             }
         }
+        Check.holds(run + "at most 512 calls", left >= 0);
     }
 
     /** Runs of kind 1 tell readings above all, of kind 2 takings, of kind 3 strips and marks, so that rooms fill up. */
     private int call() {
-        int[][] often = {{}, {0}, {15}, {3, 5, 5, 6, 6}};
-        if (often[kind].length > 0 && random.nextInt(3) > 0) {
+        int[][] often = {{}, {0}, {15}, {3, 3, 5, 5, 6}};
+        if (often[kind].length > 0 && random.nextInt(6) > 0) {
             return often[kind][random.nextInt(often[kind].length)];
         }
         return random.nextInt(21);
@@ -75,7 +77,11 @@ public final class RandomRunsTest {
 
     private void due(String call, long got, long want) {
         Check.due(run + call, got, want);
-        Check.due(run + call + ", then status()", x.status(), y.status);
+        left--;
+        if (random.nextInt(16) == 0) {
+            Check.due(run + call + ", then status()", x.status(), y.status);
+            left--;
+        }
     }
 
     private void one(int which) {
@@ -187,14 +193,12 @@ public final class RandomRunsTest {
                 w[i] = Texts.word(padded, at + 4 * i);
             }
             due("feed", x.feed(w[0], w[1], w[2], w[3], w[4]), y.feed(w));
-            left--;
         }
         int n = random.nextInt(30) == 0 ? num(0, 200) : text.length();
         due("end " + n, x.end(n), y.end(n));
         due("decrees of \"" + text + "\"", x.decrees(), y.decrees());
         due("fault of \"" + text + "\"", x.fault(), y.fault);
         due("count(3)", x.count(3), y.count(3));
-        left -= 4;
     }
 
     private String blanks() {
