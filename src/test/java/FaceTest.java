@@ -16,6 +16,8 @@ public final class FaceTest {
         + "int foretold(int,int)|int feed(int,int,int,int,int)|int end(int)|int decrees()|int fault()|int tax(int,int,int)|"
         + "int take(int,int,int,int)|long gain(int,int)|int sheaves(int)|int led(int,int,int)|int count(int)|int status()";
 
+    private static final Set<String> CONSTANTS = Set.of("int", "long", "boolean", "char", "String", "int[]", "long[]", "char[]", "byte[]");
+
     public static void main(String[] args) throws Exception {
         members();
         nestedClasses();
@@ -54,9 +56,33 @@ public final class FaceTest {
     private static void nestedClasses() {
         Class<?>[] nested = FloodTax.class.getDeclaredClasses();
         Check.holds("at most twelve classes", nested.length < 12);
+        limits(FloodTax.class);
         for (Class<?> c : nested) {
             Check.holds("static: " + c, Modifier.isStatic(c.getModifiers()) && !Modifier.isPublic(c.getModifiers()));
+            Check.due("classes inside " + c, c.getDeclaredClasses().length, 0);
+            limits(c);
         }
+    }
+
+    /** Rules 1, 5 and 11 for one class: names, static fields, parameters, fields. */
+    private static void limits(Class<?> c) {
+        Set<String> face = new TreeSet<>();
+        for (String call : FACE.split("\\|")) {
+            face.add(call.replaceAll(".* (\\w+)\\(.*", "$1"));
+        }
+        for (Method m : c.getDeclaredMethods()) {
+            Check.holds("at most seven parameters: " + m, m.getParameterCount() <= 7);
+            Check.holds("no name of the face: " + m, c == FloodTax.class || !face.contains(m.getName()));
+        }
+        int fields = 0;
+        for (var f : c.getDeclaredFields()) {
+            if (Modifier.isStatic(f.getModifiers())) {
+                Check.holds("a constant: " + f, Modifier.isFinal(f.getModifiers()) && CONSTANTS.contains(f.getType().getSimpleName()));
+            } else {
+                fields++;
+            }
+        }
+        Check.holds("at most twenty fields: " + c, fields <= 20);
     }
 
     private static void sourceWords() throws Exception {
